@@ -27,10 +27,11 @@ public final class MixedCritKernel {
     private static final int MAX_DEMAND = 32;
     private static final int STAT_KINDS = 4;
     private static final int CNT_KINDS = 6;
+    // CNT_KINDS times MAX_TASKS.
     private static final int CNT_CELLS = 48;
     private static final int ALL_TASKS = -1;
     private static final int NO_TASK = -1;
-    private static final int WRONG = -1;
+    private static final int REFUSED = -1;
     // Euclid needs fewer than 40 rounds for numbers up to UTIL_DEN.
     private static final int GCD_ROUNDS = 1000;
 
@@ -66,7 +67,7 @@ public final class MixedCritKernel {
 
     public int addTask(int period, int cLo, int cHi, int crit) {
         if (admitted || tasks >= capacity || !isTask(period, cLo, cHi, crit)) {
-            return WRONG;
+            return REFUSED;
         }
         int task = tasks;
         periods[task] = period;
@@ -99,7 +100,7 @@ public final class MixedCritKernel {
             case UTIL_HI_HI:
                 return utilSum(HI, budgetHi);
             default:
-                return WRONG;
+                return REFUSED;
         }
     }
 
@@ -121,7 +122,7 @@ public final class MixedCritKernel {
 
     public int run(int steps) {
         if (!admitted || steps < 1 || steps > MAX_STEPS) {
-            return WRONG;
+            return REFUSED;
         }
         int busy = 0;
         for (int step = 0; step < steps; step++) {
@@ -154,25 +155,25 @@ public final class MixedCritKernel {
     }
 
     public int jobDone(int task) {
-        return hasJob(task) ? executed[task] : WRONG;
+        return hasJob(task) ? executed[task] : REFUSED;
     }
 
     public long jobDeadline(int task) {
-        return hasJob(task) ? priorityKey(task) : WRONG;
+        return hasJob(task) ? priorityKey(task) : REFUSED;
     }
 
     public int counter(int task, int kind) {
         if (kind < 0 || kind >= CNT_KINDS) {
-            return WRONG;
+            return REFUSED;
         }
         if (task == ALL_TASKS) {
             return counterSum(kind);
         }
-        return isAdded(task) ? counters[kind * MAX_TASKS + task] : WRONG;
+        return isAdded(task) ? counters[kind * MAX_TASKS + task] : REFUSED;
     }
 
     public int stat(int kind) {
-        return kind >= 0 && kind < STAT_KINDS ? stats[kind] : WRONG;
+        return kind >= 0 && kind < STAT_KINDS ? stats[kind] : REFUSED;
     }
 
     private static int clampCapacity(int wanted) {

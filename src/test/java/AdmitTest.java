@@ -59,6 +59,9 @@ final class AdmitTest {
         // Rule 3 alone would take these: both of its right-hand factors are below 0.
         verdict("all far over L", REJECT, 0, 0, new int[][] {
             {1, 1, 1, LO}, {1, 1, 1, LO}, {16, 1, 16, HI}, {16, 1, 16, HI}, {16, 1, 16, HI}, {16, 1, 16, HI}});
+        verdict("ULL a little over L, UHH far over", REJECT, 0, 0, new int[][] {
+            {1, 1, 1, LO}, {4, 1, 1, LO}, {16, 1, 16, HI}, {16, 1, 16, HI}, {16, 1, 16, HI}, {16, 1, 16, HI},
+            {16, 1, 16, HI}, {16, 1, 16, HI}});
     }
 
     private static void ruleTwo() {

@@ -26,6 +26,7 @@ final class RunTest {
         hiReleasesGoOnInHiMode();
         resetComesBeforeTheRelease();
         noJobIsMissed();
+        eightTasks();
         Checks.finish();
     }
 
@@ -267,6 +268,20 @@ final class RunTest {
         Checks.due("none missed", full.counter(-1, MISSED), 0);
         Checks.due("LO jobs in time", full.counter(0, COMPLETED), 62);
         Checks.due("HI jobs in time", full.counter(1, COMPLETED), 500);
+    }
+
+    private static void eightTasks() {
+        MixedCritKernel kernel = new MixedCritKernel(8);
+        for (int task = 0; task < 8; task++) {
+            kernel.addTask(16, 1, 2, task % 2);
+        }
+        kernel.setExec(1, 2);
+        Checks.due("EDF", kernel.admit(), MixedCritKernel.VERDICT_EDF);
+        ranInTurn("eight tasks", kernel, new int[] {0, 1, 1, 3, 5, 7, -1});
+        Checks.due("all completed", kernel.counter(-1, COMPLETED), 5);
+        Checks.due("all dropped", kernel.counter(-1, DROPPED), 3);
+        kernel.run(9);
+        Checks.due("all released at 16", kernel.counter(-1, RELEASED), 16);
     }
 
     private static void ranInTurn(String name, MixedCritKernel kernel, int[] tasks) {
