@@ -1,4 +1,7 @@
-/** Promise 6: admission. */
+import java.util.ArrayList;
+import java.util.List;
+
+/** Promise 6: admission. The rules that give the verdict are held by AdmissionRulesTest. */
 final class AdmitTest {
     private static final int LO = Checks.LO;
     private static final int HI = Checks.HI;
@@ -8,136 +11,123 @@ final class AdmitTest {
     private static final int VD = MixedCritKernel.VERDICT_VD;
 
     public static void main(String[] args) {
-        refusedWithoutTasks();
         refusedWhenAdmitted();
-        ruleOne();
-        ruleTwo();
-        ruleThree();
-        ruleFour();
+        refusedWithoutTasks();
         rejectChangesNothing();
-        successReleasesEveryTask();
+        becomesAdmitted();
+        factorIsSet();
+        modeAndTime();
+        everyTaskReleasesAJob();
         releasedDemandIsTheCurrentOne();
+        countersAndLastRanStay();
         Checks.finish();
     }
 
+    private static void refusedWhenAdmitted() {
+        Checks.sentence("`admit()` is refused with `VERDICT_REFUSED` if the kernel is already admitted");
+        Twins.refused(Twins.ADMITTED, "admit()", REFUSED, MixedCritKernel::admit);
+    }
+
     private static void refusedWithoutTasks() {
+        Checks.sentence("or `taskCount() == 0`; nothing changes");
+        Twins.refused(Twins.EMPTY, "admit()", REFUSED, MixedCritKernel::admit);
         MixedCritKernel kernel = new MixedCritKernel(8);
-        String before = Checks.state(kernel);
-        Checks.due("admit without tasks", kernel.admit(), REFUSED);
-        Checks.same("admit without tasks changes nothing", Checks.state(kernel), before);
+        kernel.addTask(4, 5, 5, LO);
+        Checks.due("admit after a refused task", kernel.admit(), REFUSED);
         Checks.due("not admitted", kernel.run(1), -1);
         Checks.due("a task may still be added", kernel.addTask(4, 1, 1, LO), 0);
         Checks.due("and admitted", kernel.admit(), EDF);
     }
 
-    private static void refusedWhenAdmitted() {
-        int[][] sets = {{1, 1}, {4, 2}};
-        for (int[] set : sets) {
-            MixedCritKernel kernel = new MixedCritKernel(8);
-            kernel.addTask(set[0], set[1], 0, LO);
-            kernel.admit();
-            String before = Checks.state(kernel);
-            Checks.due("admit again", kernel.admit(), REFUSED);
-            Checks.same("admit again changes nothing", Checks.state(kernel), before);
-            kernel.run(3);
-            before = Checks.state(kernel);
-            Checks.due("admit after ticks", kernel.admit(), REFUSED);
-            Checks.same("admit after ticks changes nothing", Checks.state(kernel), before);
-        }
-        MixedCritKernel virtual = Checks.pair();
-        virtual.admit();
-        String before = Checks.state(virtual);
-        Checks.due("admit again after VD", virtual.admit(), REFUSED);
-        Checks.same("admit again after VD changes nothing", Checks.state(virtual), before);
-    }
-
-    private static void ruleOne() {
-        verdict("ULL = L", EDF, 1, 1, new int[][] {{16, 16, 0, LO}});
-        verdict("ULL just over L", REJECT, 0, 0, new int[][] {{16, 16, 0, LO}, {16, 1, 0, LO}});
-        verdict("ULL + UHL = L + 63", REJECT, 0, 0, new int[][] {
-            {11, 2, 2, HI}, {13, 3, 3, LO}, {5, 1, 1, HI}, {16, 2, 2, HI}, {5, 1, 1, LO}, {16, 1, 1, HI}});
-        // Rule 3 alone would take these: both of its right-hand factors are below 0.
-        verdict("all far over L", REJECT, 0, 0, new int[][] {
-            {1, 1, 1, LO}, {1, 1, 1, LO}, {16, 1, 16, HI}, {16, 1, 16, HI}, {16, 1, 16, HI}, {16, 1, 16, HI}});
-        verdict("ULL a little over L, UHH far over", REJECT, 0, 0, new int[][] {
-            {1, 1, 1, LO}, {4, 1, 1, LO}, {16, 1, 16, HI}, {16, 1, 16, HI}, {16, 1, 16, HI}, {16, 1, 16, HI},
-            {16, 1, 16, HI}, {16, 1, 16, HI}});
-    }
-
-    private static void ruleTwo() {
-        verdict("one LO task", EDF, 1, 1, new int[][] {{4, 1, 0, LO}});
-        verdict("one HI task", EDF, 1, 1, new int[][] {{4, 1, 4, HI}});
-        verdict("ULL + UHH = L", EDF, 1, 1, new int[][] {{13, 1, 1, LO}, {13, 4, 12, HI}});
-        verdict("ULL + UHH = L - 65", EDF, 1, 1, new int[][] {
-            {8, 1, 1, LO}, {7, 2, 3, HI}, {16, 1, 1, LO}, {11, 2, 3, HI}, {9, 1, 1, LO}});
-        // ULL + UHH = L + 63; UHL / (L - ULL) = 144144 / (720720 - 432495).
-        verdict("ULL + UHH = L + 63", VD, 2288, 4575, new int[][] {
-            {16, 3, 3, LO}, {13, 3, 3, LO}, {5, 1, 2, HI}, {11, 2, 2, LO}});
-    }
-
-    private static void ruleThree() {
-        verdict("ordinary", VD, 1, 2, new int[][] {{4, 2, 2, LO}, {8, 2, 5, HI}});
-        verdict("equality, halves", VD, 1, 2, new int[][] {{2, 1, 1, LO}, {4, 1, 3, HI}});
-        verdict("equality, thirteenths", VD, 6, 13, new int[][] {{13, 4, 11, HI}, {3, 1, 1, LO}});
-        verdict("near equality", VD, 6903, 11572, new int[][] {
-            {9, 1, 1, LO}, {16, 1, 1, LO}, {16, 1, 6, HI}, {11, 3, 4, HI}, {13, 1, 1, LO}, {16, 3, 3, LO}});
-    }
-
-    private static void ruleFour() {
-        verdict("just over equality", REJECT, 0, 0, new int[][] {
-            {16, 2, 13, HI}, {13, 3, 3, LO}, {11, 2, 2, LO}, {16, 3, 3, LO}});
-        verdict("UHH over L, no LO task", REJECT, 0, 0, new int[][] {{4, 1, 4, HI}, {4, 1, 1, HI}});
-        verdict("UHH = L with a LO task", REJECT, 0, 0, new int[][] {{16, 1, 16, HI}, {16, 1, 1, LO}});
-        verdict("ULL + UHL = L, UHH above UHL", REJECT, 0, 0, new int[][] {{2, 1, 1, LO}, {2, 1, 2, HI}});
-    }
-
-    private static void verdict(String name, int want, int num, int den, int[][] tasks) {
-        MixedCritKernel kernel = new MixedCritKernel(8);
-        for (int[] task : tasks) {
-            kernel.addTask(task[0], task[1], task[2], task[3]);
-        }
-        Checks.due(name + ": taskCount", kernel.taskCount(), tasks.length);
-        Checks.due(name + ": admit", kernel.admit(), want);
-        Checks.due(name + ": xNum", kernel.xNum(), num);
-        Checks.due(name + ": xDen", kernel.xDen(), den);
-        Checks.due(name + ": admitted", kernel.run(1) != -1, want != REJECT);
-    }
-
     private static void rejectChangesNothing() {
-        MixedCritKernel kernel = new MixedCritKernel(4);
-        kernel.addTask(2, 1, 1, LO);
-        kernel.addTask(2, 1, 2, HI);
-        String before = Checks.state(kernel);
-        Checks.due("reject", kernel.admit(), REJECT);
-        Checks.same("reject changes nothing", Checks.state(kernel), before);
-        Checks.due("reject again", kernel.admit(), REJECT);
-        Checks.same("reject again changes nothing", Checks.state(kernel), before);
-        Checks.due("run stays refused", kernel.run(1), -1);
-        Checks.due("setExec still works", kernel.setExec(0, 2), true);
+        Checks.sentence("On `VERDICT_REJECT` nothing changes: the kernel stays not admitted, xNum and xDen stay 0,"
+            + " tasks may still be added and `admit` called again.");
+        List<Twins.Start> starts = new ArrayList<>();
+        starts.add(new Twins.Start("rule 1, room", () -> tooMuch(8, 2)));
+        starts.add(new Twins.Start("rule 1, full", () -> tooMuch(2, 2)));
+        starts.add(new Twins.Start("rule 4, room", () -> tooMuch(8, 1)));
+        starts.add(new Twins.Start("rule 4, full", () -> tooMuch(2, 1)));
+        Twins.refused(starts, "admit()", REJECT, MixedCritKernel::admit);
+        MixedCritKernel kernel = tooMuch(4, 1);
+        for (int call = 0; call < 3; call++) {
+            Checks.due("reject, call " + call, kernel.admit(), REJECT);
+            Checks.due("xNum", kernel.xNum(), 0);
+            Checks.due("xDen", kernel.xDen(), 0);
+            Checks.due("run stays refused", kernel.run(1), -1);
+            Checks.due("no job", kernel.jobDone(0), -1);
+            Checks.due("none released", kernel.counter(-1, MixedCritKernel.CNT_RELEASED), 0);
+        }
         Checks.due("addTask still works", kernel.addTask(16, 1, 1, LO), 2);
         Checks.due("and rejects still", kernel.admit(), REJECT);
     }
 
-    private static void successReleasesEveryTask() {
-        MixedCritKernel kernel = new MixedCritKernel(8);
-        for (int task = 0; task < 8; task++) {
-            kernel.addTask(9 + task, 1, 1, task % 2);
+    /** Rejected by rule 4 if cLo is 1, and by rule 1 if it is 2. */
+    private static MixedCritKernel tooMuch(int capacity, int cLo) {
+        MixedCritKernel kernel = Checks.kernel(capacity, new int[] {2, 1, 1, LO}, new int[] {2, cLo, 2, HI});
+        kernel.setExec(0, 3);
+        return kernel;
+    }
+
+    private static void becomesAdmitted() {
+        Checks.sentence("On `VERDICT_EDF` or `VERDICT_VD`: the kernel becomes admitted");
+        admitted("EDF", Checks.kernel(8, new int[] {1, 1, 1, LO}), EDF);
+        admitted("VD", Checks.pair(), VD);
+    }
+
+    private static void admitted(String name, MixedCritKernel kernel, int verdict) {
+        Checks.due(name + ": run before", kernel.run(1), -1);
+        Checks.due(name + ": admit", kernel.admit(), verdict);
+        Checks.due(name + ": admit again", kernel.admit(), REFUSED);
+        Checks.due(name + ": addTask", kernel.addTask(16, 1, 1, LO), -1);
+        Checks.due(name + ": run", kernel.run(1), 1);
+    }
+
+    private static void factorIsSet() {
+        Checks.sentence("xNum and xDen are set to x in lowest terms (1 and 1 for `VERDICT_EDF`)");
+        factor("EDF of a LO task", Checks.kernel(8, new int[] {7, 3, 3, LO}), 1, 1);
+        factor("EDF of a HI task", Checks.kernel(8, new int[] {7, 3, 7, HI}), 1, 1);
+        factor("EDF of both", Checks.kernel(8, new int[] {4, 1, 1, LO}, new int[] {4, 1, 2, HI}), 1, 1);
+        factor("VD, 180180 / 360360", Checks.pair(), 1, 2);
+    }
+
+    private static void factor(String name, MixedCritKernel kernel, int num, int den) {
+        kernel.admit();
+        Checks.due("xNum, " + name, kernel.xNum(), num);
+        Checks.due("xDen, " + name, kernel.xDen(), den);
+    }
+
+    private static void modeAndTime() {
+        Checks.sentence("the mode is LO; time stays 0");
+        for (MixedCritKernel kernel : new MixedCritKernel[] {Checks.pair(), eightTasks()}) {
+            kernel.admit();
+            Checks.due("mode", kernel.mode(), LO);
+            Checks.due("time", kernel.time(), 0);
         }
+    }
+
+    private static void everyTaskReleasesAJob() {
+        Checks.sentence("step C3 of the tick is done at t = 0, so every task releases a job: `CNT_RELEASED` of each"
+            + " task increases by 1 and each task has a pending job with r = 0, executed amount 0 and demand equal to"
+            + " its current e");
+        MixedCritKernel kernel = eightTasks();
         Checks.due("eight tasks", kernel.admit(), EDF);
         for (int task = 0; task < 8; task++) {
             Checks.due("jobDone of " + task, kernel.jobDone(task), 0);
             Checks.due("jobDeadline of " + task, kernel.jobDeadline(task), 9 + task);
-            Checks.due("released of " + task, kernel.counter(task, MixedCritKernel.CNT_RELEASED), 1);
-            for (int kind = 1; kind < 6; kind++) {
-                Checks.due("counter " + kind + " of " + task, kernel.counter(task, kind), 0);
-            }
+            Checks.counters("task " + task, kernel, task, 1, 0, 0, 0, 0, 0);
         }
-        Checks.due("time", kernel.time(), 0);
-        Checks.due("mode", kernel.mode(), LO);
-        Checks.due("lastRan", kernel.lastRan(), -1);
-        for (int kind = 0; kind < 4; kind++) {
-            Checks.due("stat " + kind, kernel.stat(kind), 0);
+        Checks.due("the only task", Checks.kernel(1, new int[] {1, 1, 1, HI}).jobDone(0), -1);
+        MixedCritKernel single = Checks.kernel(1, new int[] {1, 1, 1, HI});
+        single.admit();
+        Checks.due("the only task, admitted", single.jobDone(0), 0);
+    }
+
+    private static MixedCritKernel eightTasks() {
+        MixedCritKernel kernel = new MixedCritKernel(8);
+        for (int task = 0; task < 8; task++) {
+            kernel.addTask(9 + task, 1, 1, task % 2);
         }
+        return kernel;
     }
 
     private static void releasedDemandIsTheCurrentOne() {
@@ -147,5 +137,14 @@ final class AdmitTest {
         kernel.setExec(0, 2);
         Checks.due("first job of demand 1, then 2 of task 1", kernel.run(4), 3);
         Checks.due("completed", kernel.counter(-1, MixedCritKernel.CNT_COMPLETED), 2);
+    }
+
+    private static void countersAndLastRanStay() {
+        Checks.sentence("System counters and lastRan do not change.");
+        for (MixedCritKernel kernel : new MixedCritKernel[] {Checks.pair(), eightTasks()}) {
+            kernel.admit();
+            Checks.stats("after admission", kernel, 0, 0, 0, 0);
+            Checks.due("lastRan", kernel.lastRan(), -1);
+        }
     }
 }

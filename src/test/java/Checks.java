@@ -3,12 +3,26 @@ final class Checks {
     static final int LO = MixedCritKernel.LO;
     static final int HI = MixedCritKernel.HI;
     /** Whole numbers that no index and no kind may take; -1 stands apart, as counter() takes it as a task. */
-    static final int[] FAR_OUT = {Integer.MIN_VALUE, -1000, -2, 8, 9, 100, Integer.MAX_VALUE};
+    static final int[] FAR_OUT = {
+        Integer.MIN_VALUE, Integer.MIN_VALUE + 1, -65536, -1000, -2, 8, 9, 100, 65536, Integer.MAX_VALUE};
+
+    /** Enough to see what is wrong with one sentence, and few enough to find the next one. */
+    private static final int MOST_TOLD = 10;
 
     private static int asked = 0;
     private static int wrong = 0;
+    private static int wrongHere = 0;
+    private static int sentences = 0;
+    private static String sentence = "";
 
     private Checks() {
+    }
+
+    /** Quotes the sentence of the document that the checks from here on hold; a wrong answer is told with it. */
+    static void sentence(String quote) {
+        sentence = "[" + quote + "] ";
+        sentences++;
+        wrongHere = 0;
     }
 
     static void due(String what, long got, long want) {
@@ -30,7 +44,8 @@ final class Checks {
     }
 
     static void finish() {
-        System.out.println(asked - wrong + " of " + asked + " answers are as due");
+        String held = sentences == 0 ? "" : ", " + sentences + " sentences of the document quoted";
+        System.out.println(asked - wrong + " of " + asked + " answers are as due" + held);
         if (wrong != 0 || asked == 0) {
             System.exit(1);
         }
@@ -62,18 +77,47 @@ final class Checks {
         return text.toString();
     }
 
+    /** A kernel with these tasks, each {period, cLo, cHi, crit}, not yet admitted. */
+    static MixedCritKernel kernel(int capacity, int[]... tasks) {
+        MixedCritKernel kernel = new MixedCritKernel(capacity);
+        for (int[] task : tasks) {
+            kernel.addTask(task[0], task[1], task[2], task[3]);
+        }
+        return kernel;
+    }
+
     /** A LO task (4, 2) and a HI task (8, 2, 5), not yet admitted; admission answers VD with x = 1/2. */
     static MixedCritKernel pair() {
-        MixedCritKernel kernel = new MixedCritKernel(8);
-        kernel.addTask(4, 2, 2, LO);
-        kernel.addTask(8, 2, 5, HI);
-        return kernel;
+        return kernel(8, new int[] {4, 2, 2, LO}, new int[] {8, 2, 5, HI});
+    }
+
+    /** Runs one tick for each entry, which tells the task that is due in it, or -1 if none is. */
+    static void ranInTurn(String name, MixedCritKernel kernel, int... tasks) {
+        for (int i = 0; i < tasks.length; i++) {
+            due(name + ": run(1), tick " + i, kernel.run(1), tasks[i] == -1 ? 0 : 1);
+            due(name + ": lastRan, tick " + i, kernel.lastRan(), tasks[i]);
+        }
+    }
+
+    /** The six counters of a task, in the order of their kinds. */
+    static void counters(String name, MixedCritKernel kernel, int task, int... want) {
+        for (int kind = 0; kind < 6; kind++) {
+            due(name + ": counter kind " + kind, kernel.counter(task, kind), want[kind]);
+        }
+    }
+
+    /** The four system counters, in the order of their kinds. */
+    static void stats(String name, MixedCritKernel kernel, int... want) {
+        for (int kind = 0; kind < 4; kind++) {
+            due(name + ": stat kind " + kind, kernel.stat(kind), want[kind]);
+        }
     }
 
     private static void report(String text) {
         wrong++;
-        if (wrong <= 50) {
-            System.out.println(text);
+        wrongHere++;
+        if (wrongHere <= MOST_TOLD) {
+            System.out.println(sentence + text);
         }
     }
 }

@@ -3,53 +3,49 @@ final class StatTest {
     public static void main(String[] args) {
         eachKind();
         otherKinds();
+        changesNothing();
         Checks.finish();
     }
 
     private static void eachKind() {
+        Checks.sentence("`stat(kind)` answers the system counter of the given `STAT_` kind");
         MixedCritKernel kernel = Checks.pair();
         kernel.setExec(1, 5);
-        four(kernel, 0, 0, 0, 0);
+        Checks.stats("before admission", kernel, 0, 0, 0, 0);
         kernel.admit();
-        four(kernel, 0, 0, 0, 0);
+        Checks.stats("after admission", kernel, 0, 0, 0, 0);
         kernel.run(3);
-        four(kernel, 0, 0, 0, 3);
+        Checks.stats("at 3", kernel, 0, 0, 0, 3);
         kernel.run(1);
-        four(kernel, 1, 0, 0, 4);
+        Checks.stats("at 4", kernel, 1, 0, 0, 4);
         kernel.run(2);
-        four(kernel, 1, 0, 0, 6);
+        Checks.stats("at 6", kernel, 1, 0, 0, 6);
         kernel.run(1);
-        four(kernel, 1, 1, 0, 7);
+        Checks.stats("at 7", kernel, 1, 1, 0, 7);
         kernel.run(1);
-        four(kernel, 1, 1, 1, 7);
+        Checks.stats("at 8", kernel, 1, 1, 1, 7);
         kernel.run(8);
-        four(kernel, 2, 2, 2, 14);
+        Checks.stats("at 16", kernel, 2, 2, 2, 14);
         kernel.run(800);
-        four(kernel, 102, 102, 102, 714);
-        String before = Checks.state(kernel);
-        kernel.stat(0);
-        kernel.stat(9);
-        Checks.same("stat changes nothing", Checks.state(kernel), before);
-    }
-
-    private static void four(MixedCritKernel kernel, int switches, int resets, int idle, int busy) {
-        String at = " at " + kernel.time();
-        Checks.due("switches" + at, kernel.stat(MixedCritKernel.STAT_SWITCHES), switches);
-        Checks.due("resets" + at, kernel.stat(MixedCritKernel.STAT_RESETS), resets);
-        Checks.due("idle" + at, kernel.stat(MixedCritKernel.STAT_IDLE), idle);
-        Checks.due("busy" + at, kernel.stat(MixedCritKernel.STAT_BUSY), busy);
+        Checks.stats("at 816", kernel, 102, 102, 102, 714);
     }
 
     private static void otherKinds() {
-        int[] others = {Integer.MIN_VALUE, -2, -1, 4, 5, 100, Integer.MAX_VALUE};
-        MixedCritKernel kernel = Checks.pair();
+        Checks.sentence("and -1 for any other kind");
+        int[] others = {Integer.MIN_VALUE, -65536, -4, -2, -1, 4, 5, 6, 100, 65536, Integer.MAX_VALUE};
         for (int kind : others) {
-            Checks.due("fresh stat(" + kind + ")", kernel.stat(kind), -1);
+            Twins.refused(Twins.ALL, "stat(" + kind + ")", -1, kernel -> kernel.stat(kind));
         }
-        kernel.admit();
-        kernel.run(9);
-        for (int kind : others) {
-            Checks.due("stat(" + kind + ")", kernel.stat(kind), -1);
+        for (int kind = 0; kind < 4; kind++) {
+            Checks.due("fresh stat(" + kind + ")", new MixedCritKernel(1).stat(kind), 0);
+        }
+    }
+
+    private static void changesNothing() {
+        Checks.sentence("and -1 for any other kind. It changes nothing.");
+        for (int kind = -1; kind <= 4; kind++) {
+            int asked = kind;
+            Twins.unchanged(Twins.ALL, "stat(" + kind + ")", kernel -> kernel.stat(asked));
         }
     }
 }

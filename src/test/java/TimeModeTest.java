@@ -1,17 +1,37 @@
 /** Promise 8: time and mode. */
 final class TimeModeTest {
     public static void main(String[] args) {
+        zeroUntilTicksAreDone();
         timeCountsTicks();
-        modeFollowsTheSwitches();
+        modeIsLoOrHi();
         changeNothing();
         Checks.finish();
     }
 
-    private static void timeCountsTicks() {
+    private static void zeroUntilTicksAreDone() {
+        Checks.sentence("`time()` answers the current time: 0 until `run` has done ticks");
+        for (Twins.Start start : Twins.NOT_ADMITTED) {
+            MixedCritKernel kernel = start.make().get();
+            Checks.due("time, " + start.name(), kernel.time(), 0);
+            kernel.run(1);
+            kernel.run(1000);
+            Checks.due("time after refused runs, " + start.name(), kernel.time(), 0);
+        }
         MixedCritKernel kernel = Checks.pair();
-        Checks.due("time before admission", kernel.time(), 0);
         kernel.admit();
         Checks.due("time after admission", kernel.time(), 0);
+        kernel.run(0);
+        kernel.run(-1);
+        kernel.run(1001);
+        Checks.due("time after admission and refused runs", kernel.time(), 0);
+        kernel.run(1);
+        Checks.due("time after the first tick", kernel.time(), 1);
+    }
+
+    private static void timeCountsTicks() {
+        Checks.sentence("then the number of ticks done in total");
+        MixedCritKernel kernel = Checks.pair();
+        kernel.admit();
         int[] steps = {1, 1, 5, 1000, 999, 1, 17};
         int total = 0;
         for (int count : steps) {
@@ -28,7 +48,8 @@ final class TimeModeTest {
         Checks.due("time after a million ticks more", kernel.time(), total + 1000000);
     }
 
-    private static void modeFollowsTheSwitches() {
+    private static void modeIsLoOrHi() {
+        Checks.sentence("`mode()` answers the current mode, `LO` or `HI`.");
         MixedCritKernel kernel = Checks.pair();
         kernel.setExec(1, 5);
         Checks.due("mode before admission", kernel.mode(), MixedCritKernel.LO);
@@ -42,13 +63,8 @@ final class TimeModeTest {
     }
 
     private static void changeNothing() {
-        MixedCritKernel kernel = Checks.pair();
-        kernel.setExec(1, 5);
-        kernel.admit();
-        kernel.run(5);
-        String before = Checks.state(kernel);
-        Checks.due("time", kernel.time(), 5);
-        Checks.due("mode", kernel.mode(), MixedCritKernel.HI);
-        Checks.same("time and mode change nothing", Checks.state(kernel), before);
+        Checks.sentence("Neither changes anything.");
+        Twins.unchanged(Twins.ALL, "time()", MixedCritKernel::time);
+        Twins.unchanged(Twins.ALL, "mode()", MixedCritKernel::mode);
     }
 }
