@@ -206,7 +206,7 @@ final class TickTest {
         }
     }
 
-    /** Admission rules a miss out, so here a job in its last tick is not called late; ForcedStateTest makes jobs late. */
+    /** Admission rules a miss out, so here no job is called late in its last tick; ForcedStateTest makes jobs late. */
     private static void noJobIsCalledLate() {
         Checks.sentence("for each task j in index order with a pending job whose r + T <= t: `CNT_MISSED` of j"
             + " increases by 1 and the job is no longer pending");
