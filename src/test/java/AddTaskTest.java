@@ -104,7 +104,8 @@ final class AddTaskTest {
     }
 
     private static void refusedForManyReasons() {
-        Checks.sentence("the first that holds refuses with -1 and nothing changes");
+        Checks.sentence("`addTask(period, cLo, cHi, crit)` examines these conditions in this order; the first that"
+            + " holds refuses with -1 and nothing changes");
         refused(Twins.ALL, 0, 0, 0, 2);
         refused(Twins.ALL, 17, 18, -1, -1);
         refused(Twins.ALL, Integer.MIN_VALUE, Integer.MIN_VALUE, Integer.MIN_VALUE, Integer.MIN_VALUE);

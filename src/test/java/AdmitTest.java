@@ -13,6 +13,7 @@ final class AdmitTest {
     public static void main(String[] args) {
         refusedWhenAdmitted();
         refusedWithoutTasks();
+        answersTheVerdict();
         rejectChangesNothing();
         becomesAdmitted();
         factorIsSet();
@@ -37,6 +38,24 @@ final class AdmitTest {
         Checks.due("not admitted", kernel.run(1), -1);
         Checks.due("a task may still be added", kernel.addTask(4, 1, 1, LO), 0);
         Checks.due("and admitted", kernel.admit(), EDF);
+    }
+
+    private static void answersTheVerdict() {
+        Checks.sentence("Otherwise it applies the admission rules and answers the verdict.");
+        Checks.due("rule 1", Checks.kernel(8, new int[] {2, 1, 1, LO}, new int[] {16, 9, 9, HI}).admit(), REJECT);
+        Checks.due("rule 2", Checks.kernel(8, new int[] {2, 1, 1, LO}, new int[] {16, 8, 8, HI}).admit(), EDF);
+        Checks.due("rule 3", Checks.kernel(8, new int[] {2, 1, 1, LO}, new int[] {16, 4, 12, HI}).admit(), VD);
+        Checks.due("rule 4", Checks.kernel(8, new int[] {2, 1, 1, LO}, new int[] {16, 4, 13, HI}).admit(), REJECT);
+        MixedCritKernel demanding = Checks.pair();
+        demanding.setExec(0, 32);
+        demanding.setExec(1, 32);
+        Checks.due("demands do not count", demanding.admit(), VD);
+        MixedCritKernel growing = new MixedCritKernel(8);
+        growing.addTask(2, 1, 1, LO);
+        growing.addTask(2, 1, 2, HI);
+        Checks.due("rule 4 for two tasks", growing.admit(), REJECT);
+        growing.addTask(16, 1, 1, LO);
+        Checks.due("rule 1 for three tasks", growing.admit(), REJECT);
     }
 
     private static void rejectChangesNothing() {

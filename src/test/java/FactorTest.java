@@ -9,7 +9,8 @@ final class FactorTest {
     }
 
     private static void lowestTerms() {
-        Checks.sentence("answer the numerator and denominator of x in lowest terms after a successful admission");
+        Checks.sentence("`xNum()` and `xDen()` answer the numerator and denominator of x in lowest terms after a"
+            + " successful admission");
         admitted(1, 1, new int[][] {{7, 3, 3, 0}});
         admitted(1, 1, new int[][] {{7, 3, 7, 1}});
         admitted(1, 2, new int[][] {{4, 2, 2, 0}, {8, 2, 5, 1}});

@@ -4,16 +4,26 @@ final class TermsTest {
     private static final int HI = Checks.HI;
 
     public static void main(String[] args) {
+        onePeriodicJobAtATime();
         eightTasksAtMost();
+        eachTaskHasItsOwn();
+        factorByTheRules();
+        tickByTick();
         leastCommonMultiple();
         mostSteps();
         indicesOfSuccessfulCalls();
+        whatATaskHas();
         loTaskHasOneBudget();
         firstDemand();
         releasesAtMultiples();
         whatAJobStartsWith();
         atMostOnePendingJob();
+        commonDenominator();
+        sumOfLoTasks();
+        sumOfHiTasksInLo();
+        sumOfHiTasksInHi();
         sumOverNoTasks();
+        keysAreLong();
         keyOfHiTaskInLoMode();
         keyOtherwise();
         leastKeyFirst();
@@ -21,6 +31,29 @@ final class TermsTest {
         modeAtTheStart();
         refusedCallsChangeNothing();
         Checks.finish();
+    }
+
+    private static void onePeriodicJobAtATime() {
+        Checks.sentence("MixedCritKernel is a uniprocessor kernel for dual-criticality, implicit-deadline, periodic"
+            + " tasks.");
+        MixedCritKernel kernel = Checks.kernel(3, new int[] {6, 2, 2, LO}, new int[] {4, 1, 2, HI},
+            new int[] {12, 2, 2, HI});
+        Checks.due("EDF", kernel.admit(), MixedCritKernel.VERDICT_EDF);
+        int[] periods = {6, 4, 12};
+        for (int time = 0; time < 48; time++) {
+            int[] before = {kernel.jobDone(0), kernel.jobDone(1), kernel.jobDone(2)};
+            for (int task = 0; task < 3; task++) {
+                long deadline = (time / periods[task] + 1) * periods[task];
+                Checks.due("deadline of " + task + " at " + time, kernel.jobDeadline(task),
+                    before[task] < 0 ? -1 : deadline);
+            }
+            kernel.run(1);
+            for (int task = 0; task < 3; task++) {
+                boolean waits = before[task] >= 0 && task != kernel.lastRan();
+                Checks.due("task " + task + " waits at " + time, waits && kernel.jobDone(task) != before[task], false);
+            }
+        }
+        Checks.stats("48 ticks", kernel, 0, 0, 12, 36);
     }
 
     private static void eightTasksAtMost() {
@@ -33,6 +66,56 @@ final class TermsTest {
                 Checks.due("task " + task, kernel.addTask(period, 1, 1, task % 2), task < 8 ? task : -1);
             }
         }
+    }
+
+    private static void eachTaskHasItsOwn() {
+        Checks.sentence("a criticality (LO or HI), a LO budget `cLo`, a HI budget `cHi` and a per-task demand `e`.");
+        MixedCritKernel kernel = Checks.kernel(6, new int[] {16, 1, 9, LO}, new int[] {16, 2, 9, LO},
+            new int[] {16, 1, 1, HI}, new int[] {16, 1, 3, HI}, new int[] {16, 2, 4, HI}, new int[] {16, 3, 5, HI});
+        kernel.setExec(1, 4);
+        kernel.setExec(3, 2);
+        kernel.setExec(4, 9);
+        kernel.setExec(5, 2);
+        Checks.due("EDF", kernel.admit(), MixedCritKernel.VERDICT_EDF);
+        // Demands 1, 4, 1, 2, 9 and 2 against budgets 1, 2, 1, 3, 4 and 5.
+        Checks.ranInTurn("each to its own end", kernel, 0, 1, 1, 2, 3, 3, 4, 4, 4, 4, 5, 5, -1);
+        for (int task = 0; task < 6; task++) {
+            int aborted = task == 1 || task == 4 ? 1 : 0;
+            Checks.counters("task " + task, kernel, task, 1, 1 - aborted, aborted, 0, 0, 0);
+        }
+    }
+
+    private static void factorByTheRules() {
+        Checks.sentence("Admission uses the rules of EDF with virtual deadlines (EDF-VD), with all arithmetic exact,"
+            + " giving a scaling factor x kept in lowest terms as `xNum / xDen`.");
+        int[][][] sets = {
+            {{4, 2, 2, LO}, {8, 2, 5, HI}}, {{16, 8, 8, LO}, {16, 1, 9, HI}}, {{3, 1, 1, LO}, {13, 4, 11, HI}},
+            {{4, 1, 1, LO}, {4, 1, 2, HI}}, {{2, 1, 1, LO}, {7, 3, 5, HI}}};
+        int[][] factors = {{1, 2}, {1, 8}, {6, 13}, {1, 1}, {0, 0}};
+        for (int set = 0; set < sets.length; set++) {
+            MixedCritKernel kernel = Checks.kernel(2, sets[set]);
+            kernel.admit();
+            Checks.due("xNum of set " + set, kernel.xNum(), factors[set][0]);
+            Checks.due("xDen of set " + set, kernel.xDen(), factors[set][1]);
+        }
+    }
+
+    private static void tickByTick() {
+        Checks.sentence("Once admitted, the kernel simulates the schedule tick by tick, with switches between LO and"
+            + " HI mode, and keeps per-task and system counters.");
+        MixedCritKernel kernel = Checks.pair();
+        kernel.setExec(1, 5);
+        kernel.admit();
+        int[] ran = {0, 0, 1, 1, 1, 1, 1, -1};
+        int[] modeAfter = {LO, LO, LO, HI, HI, HI, LO, LO};
+        for (int time = 0; time < 800; time++) {
+            Checks.ranInTurn("at " + time, kernel, ran[time % 8]);
+            Checks.due("mode after the tick at " + time, kernel.mode(), modeAfter[time % 8]);
+        }
+        // The LO release in the middle of every eight ticks is skipped.
+        Checks.counters("LO task", kernel, 0, 101, 100, 0, 0, 100, 0);
+        Checks.counters("HI task", kernel, 1, 101, 100, 0, 0, 0, 0);
+        Checks.stats("800 ticks", kernel, 100, 100, 100, 700);
     }
 
     private static void leastCommonMultiple() {
@@ -52,6 +135,7 @@ final class TermsTest {
 
     private static void mostSteps() {
         Checks.sentence("`MAX_STEPS = 1000`, the largest number of ticks one `run` call may ask for.");
+        Checks.due("MAX_STEPS", MixedCritKernel.MAX_STEPS, 1000);
         MixedCritKernel kernel = Checks.kernel(1, new int[] {1, 1, 1, LO});
         kernel.admit();
         Checks.due("run(1000)", kernel.run(1000), 1000);
@@ -71,6 +155,34 @@ final class TermsTest {
         for (int task = 0; task < 4; task++) {
             Checks.due("the period of task " + task, kernel.jobDeadline(task), 10 + task);
         }
+    }
+
+    private static void whatATaskHas() {
+        Checks.sentence("has a period T (1..16), a criticality LO or HI, a budget `cLo`, a budget `cHi`");
+        for (int period = 1; period <= 16; period++) {
+            for (int cLo = 1; cLo <= period; cLo++) {
+                for (int cHi = cLo; cHi <= period; cHi++) {
+                    overrunning(period, cLo, cHi, LO);
+                    overrunning(period, cLo, cHi, HI);
+                }
+            }
+        }
+    }
+
+    /** A task alone whose jobs ask for more than any budget: the budgets end them. */
+    private static void overrunning(int period, int cLo, int cHi, int crit) {
+        String name = "task (" + period + ", " + cLo + ", " + cHi + ", " + crit + ")";
+        MixedCritKernel kernel = Checks.kernel(1, new int[] {period, cLo, cHi, crit});
+        kernel.setExec(0, 32);
+        kernel.admit();
+        Checks.due(name + ": period", kernel.jobDeadline(0), period);
+        Checks.due(name + ": no switch before cLo", cLo > 1 && kernel.run(cLo - 1) >= 0 && kernel.mode() == HI, false);
+        kernel.run(1);
+        Checks.due(name + ": switches at cLo", kernel.stat(MixedCritKernel.STAT_SWITCHES), crit);
+        kernel.run(2 * period - cLo);
+        int budget = crit == LO ? cLo : cHi;
+        Checks.due(name + ": busy in two periods", kernel.stat(MixedCritKernel.STAT_BUSY), 2 * budget);
+        Checks.counters(name, kernel, 0, 3, 0, 2, 0, 0, 0);
     }
 
     private static void loTaskHasOneBudget() {
@@ -160,6 +272,44 @@ final class TermsTest {
         }
     }
 
+    private static void commonDenominator() {
+        Checks.sentence("With L = `UTIL_DEN` = 720720:");
+        Checks.due("UTIL_DEN", MixedCritKernel.UTIL_DEN, 720720);
+        Checks.due("a full LO task", Checks.kernel(1, new int[] {13, 13, 13, LO}).utilNum(0), 720720);
+        Checks.due("a full HI task", Checks.kernel(1, new int[] {11, 11, 11, HI}).utilNum(1), 720720);
+    }
+
+    private static void sumOfLoTasks() {
+        Checks.sentence("- ULL = sum over LO tasks of `cLo * (720720 / T)`");
+        sums(MixedCritKernel.UTIL_LO_LO, LO, 1);
+    }
+
+    private static void sumOfHiTasksInLo() {
+        Checks.sentence("- UHL = sum over HI tasks of `cLo * (720720 / T)`");
+        sums(MixedCritKernel.UTIL_HI_LO, HI, 1);
+    }
+
+    private static void sumOfHiTasksInHi() {
+        Checks.sentence("- UHH = sum over HI tasks of `cHi * (720720 / T)`");
+        sums(MixedCritKernel.UTIL_HI_HI, HI, 2);
+    }
+
+    /** The sum over the tasks of this criticality; the budget is the second or the third number of a task. */
+    private static void sums(int kind, int crit, int budget) {
+        for (int first = 1; first <= 16; first++) {
+            MixedCritKernel kernel = new MixedCritKernel(8);
+            int sum = 0;
+            for (int i = 0; i < 8; i++) {
+                int period = 1 + (first + 5 * i) % 16;
+                int cLo = 1 + (first + i) % period;
+                int[] task = {period, cLo, cLo + (period - cLo) / 2, (first + i / 2 + i) % 2};
+                kernel.addTask(task[0], task[1], task[2], task[3]);
+                sum += task[3] == crit ? task[budget] * (720720 / period) : 0;
+                Checks.due("kind " + kind + ", " + (i + 1) + " tasks from " + first, kernel.utilNum(kind), sum);
+            }
+        }
+    }
+
     private static void sumOverNoTasks() {
         Checks.sentence("A sum over no tasks is 0.");
         MixedCritKernel none = new MixedCritKernel(1);
@@ -170,6 +320,25 @@ final class TermsTest {
             Checks.due("no tasks, kind " + kind, none.utilNum(kind), sums[0][kind]);
             Checks.due("a LO task alone, kind " + kind, lo.utilNum(kind), sums[1][kind]);
             Checks.due("a HI task alone, kind " + kind, hi.utilNum(kind), sums[2][kind]);
+        }
+    }
+
+    private static void keysAreLong() {
+        Checks.sentence("of the pending job of task i (period T, release r), a `long`:");
+        // x = 21060 / 42119: the keys are beyond int from time 51000 on.
+        MixedCritKernel kernel = Checks.kernel(6, new int[] {10, 1, 1, LO}, new int[] {15, 2, 2, LO},
+            new int[] {13, 1, 1, LO}, new int[] {9, 2, 2, LO}, new int[] {7, 1, 2, HI}, new int[] {11, 1, 2, HI});
+        kernel.admit();
+        int[] periods = {10, 15, 13, 9, 7, 11};
+        for (int call = 0; call < 200; call++) {
+            kernel.run(900 + call % 7);
+            for (int task = 0; task < 6; task++) {
+                long release = kernel.time() / periods[task] * periods[task];
+                long real = (release + periods[task]) * 42119;
+                long key = task < 4 ? real : release * 42119 + 21060 * periods[task];
+                Checks.due("key of " + task + " at " + kernel.time(), kernel.jobDeadline(task),
+                    kernel.jobDone(task) < 0 ? -1 : key);
+            }
         }
     }
 

@@ -18,6 +18,7 @@ final class TickTest {
         hiJobIsAborted();
         switchAndAbortInOneTick();
         timeGrowsByOne();
+        boundaryAtTheNewTime();
         noJobIsCalledLate();
         noJobIsMissedAtTheBorders();
         resetWhenNothingIsPending();
@@ -106,7 +107,8 @@ final class TickTest {
     }
 
     private static void hiJobSwitchesTheMode() {
-        Checks.sentence("first, if the mode is LO and u == `cLo`, the mode becomes HI, `STAT_SWITCHES` increases by 1");
+        Checks.sentence("else (task i is HI): first, if the mode is LO and u == `cLo`, the mode becomes HI,"
+            + " `STAT_SWITCHES` increases by 1");
         for (int cLo = 1; cLo <= 15; cLo++) {
             for (int cHi = cLo + 1; cHi <= 16; cHi++) {
                 MixedCritKernel kernel = alone(16, cLo, cHi, HI, cLo + 1);
@@ -203,6 +205,19 @@ final class TickTest {
         for (int tick = 1; tick <= 100; tick++) {
             kernel.run(1);
             Checks.due("time after tick " + tick + ", busy or idle", kernel.time(), tick);
+        }
+    }
+
+    private static void boundaryAtTheNewTime() {
+        Checks.sentence("at the new t:");
+        MixedCritKernel kernel = alone(3, 1, 2, HI, 2);
+        for (int job = 0; job < 20; job++) {
+            Checks.due("r of job " + job + " is the new t", kernel.jobDeadline(0), 3 * job + 3);
+            kernel.run(2);
+            Checks.due("reset at " + kernel.time(), kernel.mode(), LO);
+            Checks.due("no new job at " + kernel.time(), kernel.jobDone(0), -1);
+            kernel.run(1);
+            Checks.due("a new job at " + kernel.time(), kernel.jobDone(0), 0);
         }
     }
 
