@@ -9,11 +9,21 @@ final class Checks {
     /** Enough to see what is wrong with one sentence, and few enough to find the next one. */
     private static final int MOST_TOLD = 10;
 
+    /** Many times what the longest test needs. */
+    private static final long MOST_MILLIS = 120_000;
+
     private static int asked = 0;
     private static int wrong = 0;
     private static int wrongHere = 0;
     private static int sentences = 0;
     private static String sentence = "";
+
+    static {
+        // A call that never ends must fail its test, not hold it up for ever.
+        Thread watch = new Thread(Checks::endIfLate);
+        watch.setDaemon(true);
+        watch.start();
+    }
 
     private Checks() {
     }
@@ -111,6 +121,16 @@ final class Checks {
         for (int kind = 0; kind < 4; kind++) {
             due(name + ": stat kind " + kind, kernel.stat(kind), want[kind]);
         }
+    }
+
+    private static void endIfLate() {
+        try {
+            Thread.sleep(MOST_MILLIS);
+        } catch (InterruptedException interrupted) {
+            return;
+        }
+        System.out.println(sentence + "the test does not end");
+        Runtime.getRuntime().halt(1);
     }
 
     private static void report(String text) {

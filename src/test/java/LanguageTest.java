@@ -314,14 +314,17 @@ final class LanguageTest {
             && Source.nodes(field.getInitializer(), MethodInvocationTree.class).isEmpty();
     }
 
-    /** A length that is neither a literal nor a constant counts as 0. */
+    /** A length that is not made of literals and constants counts as 0. */
     private int lengthOf(ExpressionTree length) {
         if (length instanceof LiteralTree literal && literal.getValue() instanceof Integer value) {
             return value;
         }
+        if (length instanceof BinaryTree product && product.getKind() == Kind.MULTIPLY) {
+            return lengthOf(product.getLeftOperand()) * lengthOf(product.getRightOperand());
+        }
         for (VariableTree field : fields) {
             if (is(field, Modifier.STATIC) && length.toString().equals(field.getName().toString())) {
-                return field.getInitializer() instanceof LiteralTree ? lengthOf(field.getInitializer()) : 1;
+                return lengthOf(field.getInitializer());
             }
         }
         return 0;
